@@ -485,7 +485,7 @@ public final class BillHouse {
             int neededOnes = works.neededBy(group);
             for (int row = 0; row < MAX_WORKS; row++) {
                 if (isIn(neededOnes, row)) {
-                    fillRow(works, row, works.unitsOf(row, group, neededOnes), neededOnes);
+                    fillRow(works, row, works.unitsOf(row, group, neededOnes));
                 } else {
                     fillIdleRow(row);
                 }
@@ -496,9 +496,10 @@ public final class BillHouse {
             }
         }
 
-        private void fillRow(Works works, int row, int units, int neededOnes) {
+        private void fillRow(Works works, int row, int units) {
+            // What a needed work uses is needed too, so no column stands for a work that is not.
             for (int column = 0; column < MAX_WORKS; column++) {
-                factors[row][column] = isIn(neededOnes, column) ? -works.unitsByWork[column][row] : 0;
+                factors[row][column] = -works.unitsByWork[column][row];
             }
             factors[row][row] = units;
             costs[row] = works.costAt(row, units);

@@ -786,16 +786,17 @@ public final class PromisesTest {
     }
 
     private static void count() {
-        BillHouse h = oneWork(10, 0, 1, 1, 1);
+        BillHouse h = oneWork(10, 0, 1, 1, 1, 0);
         h.work(0, 0);
         h.mark(0, 7);
         h.mark(1, -3);
         h.mark(2, 100);
+        h.mark(3, 30);
         h.set(2, false);
         h.book(0);
         h.book(0);
         h.set(1, false);
-        int[] want = {2, 3, 1, 2, 2, 7, 14};
+        int[] want = {2, 4, 2, 3, 2, 37, 44};
         for (int what = 0; what < want.length; what++) {
             Due.is("count " + what, h.count(what), want[what]);
         }

@@ -1,0 +1,134 @@
+import java.io.IOException;
+import java.lang.reflect.Field;
+import java.lang.reflect.Method;
+import java.lang.reflect.Modifier;
+import java.nio.file.Files;
+import java.nio.file.Path;
+import java.util.List;
+import java.util.Set;
+import java.util.TreeSet;
+import java.util.regex.Matcher;
+import java.util.regex.Pattern;
+
+/** The face of the class, and the rules of LANGUAGE.md that can be read off the code. Runs in the project's root. */
+public final class LanguageTest {
+    private static final Path SOURCE = Path.of("src/main/java/BillHouse.java");
+    private static final Set<String> FACE = Set.of(
+            "int work(int,int)", "int user()", "boolean change(int,int,int)", "boolean use(int,int,int)",
+            "boolean feed(int,int,int)", "boolean set(int,boolean)", "int mark(int,int)", "int needed()",
+            "int idle()", "int total(int)", "int cost(int)", "long price(int,int)", "long bill(int,int,int)",
+            "int coins(int,int)", "int leaving(int)", "int saved(int)", "int differ(int,int)", "int book(int)",
+            "int booked(int)", "int line(int,int)", "int count(int)");
+    private static final Pattern FORBIDDEN = Pattern.compile(
+            "\\b(throw|throws|try|catch|synchronized|assert|\\w+Exact|System\\.(?!arraycopy)\\w+"
+            + "|Random|Thread|float|double)\\b|static\\s*\\{|->|::|\"");
+    private static final List<String> IMPORTS = List.of("import java.util.Arrays;");
+    private static final Pattern METHOD = Pattern.compile("^ +(public|private)( static)? [\\w\\[\\]]+ \\w+\\((.*)\\) \\{$");
+
+    private LanguageTest() {
+    }
+
+    public static void main(String[] args) throws IOException {
+        face();
+        constants();
+        classesInside();
+        List<String> code = Files.readAllLines(SOURCE).stream().map(LanguageTest::withoutComment).toList();
+        forbiddenWords(code);
+        objectsInConstructorsAlone(code);
+        shortMethods(code);
+        Due.end();
+    }
+
+    private static void face() {
+        Due.is("class is public and final", Modifier.isPublic(BillHouse.class.getModifiers())
+                && Modifier.isFinal(BillHouse.class.getModifiers()), true);
+        Set<String> found = new TreeSet<>();
+        Set<String> names = new TreeSet<>();
+        for (Method method : BillHouse.class.getDeclaredMethods()) {
+            if (!Modifier.isPrivate(method.getModifiers())) {
+                found.add(method.toString().replace("public ", "").replace("BillHouse.", ""));
+                names.add(method.getName());
+            }
+        }
+        Due.is("face is " + found, found.equals(FACE), true);
+        for (Method method : BillHouse.class.getDeclaredMethods()) {
+            boolean isPrivate = Modifier.isPrivate(method.getModifiers());
+            Due.is("name of " + method, isPrivate && names.contains(method.getName()), false);
+        }
+        Due.is("constructors", BillHouse.class.getDeclaredConstructors().length, 1);
+        Due.is("public constructors", BillHouse.class.getConstructors().length, 1);
+    }
+
+    private static void constants() {
+        Due.is("NONE", BillHouse.NONE, -1);
+        Due.is("UNTOLD", BillHouse.UNTOLD, -1000000000000L);
+        for (Field field : BillHouse.class.getDeclaredFields()) {
+            int modifiers = field.getModifiers();
+            boolean isOfFace = field.getName().equals("NONE") || field.getName().equals("UNTOLD");
+            Due.is(field + " is private", Modifier.isPrivate(modifiers), !isOfFace);
+            Due.is(field + " is final", Modifier.isFinal(modifiers), true);
+        }
+    }
+
+    private static void classesInside() {
+        Class<?>[] inside = BillHouse.class.getDeclaredClasses();
+        Due.is("at most eleven classes inside", inside.length <= 11, true);
+        for (Class<?> one : inside) {
+            int modifiers = one.getModifiers();
+            Due.is(one + " is static", Modifier.isStatic(modifiers), true);
+            Due.is(one + " is public or protected", Modifier.isPublic(modifiers) || Modifier.isProtected(modifiers), false);
+            Due.is(one + " has few fields", one.getDeclaredFields().length <= 20, true);
+            for (Field field : one.getDeclaredFields()) {
+                boolean changes = Modifier.isStatic(field.getModifiers()) && !Modifier.isFinal(field.getModifiers());
+                Due.is(field + " is static and not final", changes, false);
+            }
+        }
+    }
+
+    private static String withoutComment(String line) {
+        String text = line.strip();
+        if (text.startsWith("/**") || text.startsWith("*")) {
+            return "";
+        }
+        int comment = line.indexOf("//");
+        return comment < 0 ? line : line.substring(0, comment);
+    }
+
+    private static void forbiddenWords(List<String> code) {
+        for (String line : code) {
+            Matcher matcher = FORBIDDEN.matcher(line);
+            Due.is("forbidden in: " + line, matcher.find(), false);
+            if (line.startsWith("import") || line.startsWith("package")) {
+                Due.is("allowed " + line, IMPORTS.contains(line), true);
+            }
+        }
+    }
+
+    /** So no call makes objects, and the room of a run is that of its constructors. */
+    private static void objectsInConstructorsAlone(List<String> code) {
+        boolean inConstructor = false;
+        for (String line : code) {
+            inConstructor = line.equals("    public BillHouse() {") || inConstructor && !line.equals("    }");
+            if (line.matches(".*\\bnew\\b.*") && !inConstructor) {
+                Due.is("made beside a field: " + line, line.matches(" +private final .* = new .*;"), true);
+            }
+        }
+    }
+
+    private static void shortMethods(List<String> code) {
+        int start = -1;
+        for (int i = 0; i < code.size(); i++) {
+            Matcher matcher = METHOD.matcher(code.get(i));
+            if (matcher.matches()) {
+                start = i;
+                Due.is("parameters of " + code.get(i), matcher.group(3).split(",").length <= 7, true);
+            }
+            if (start >= 0 && code.get(i).matches(" +\\}")) {
+                Due.is("length of " + code.get(start), i - start <= 60, true);
+            }
+            if (code.get(i).isBlank()) {
+                start = -1;
+            }
+        }
+    }
+}
