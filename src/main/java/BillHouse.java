@@ -94,7 +94,7 @@ public final class BillHouse {
         if (!users.has(user)) {
             return NOT_MARKED;
         }
-        // In long: an int sum could wrap back into the bounds.
+        // In long, so that no sum wraps around.
         long then = (long) users.marked[user] + coins;
         if (then < -MAX_MARKED || then > MAX_MARKED) {
             return NOT_MARKED;

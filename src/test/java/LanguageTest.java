@@ -1,4 +1,5 @@
 import java.io.IOException;
+import java.lang.reflect.Array;
 import java.lang.reflect.Field;
 import java.lang.reflect.Method;
 import java.lang.reflect.Modifier;
@@ -28,10 +29,11 @@ public final class LanguageTest {
     private LanguageTest() {
     }
 
-    public static void main(String[] args) throws IOException {
+    public static void main(String[] args) throws IOException, IllegalAccessException {
         face();
         constants();
         classesInside();
+        room();
         List<String> code = Files.readAllLines(SOURCE).stream().map(LanguageTest::withoutComment).toList();
         forbiddenWords(code);
         objectsInConstructorsAlone(code);
@@ -54,6 +56,11 @@ public final class LanguageTest {
         for (Method method : BillHouse.class.getDeclaredMethods()) {
             boolean isPrivate = Modifier.isPrivate(method.getModifiers());
             Due.is("name of " + method, isPrivate && names.contains(method.getName()), false);
+        }
+        for (Class<?> inside : BillHouse.class.getDeclaredClasses()) {
+            for (Method method : inside.getDeclaredMethods()) {
+                Due.is("name of " + method, names.contains(method.getName()), false);
+            }
         }
         Due.is("constructors", BillHouse.class.getDeclaredConstructors().length, 1);
         Due.is("public constructors", BillHouse.class.getConstructors().length, 1);
@@ -82,6 +89,45 @@ public final class LanguageTest {
                 boolean changes = Modifier.isStatic(field.getModifiers()) && !Modifier.isFinal(field.getModifiers());
                 Due.is(field + " is static and not final", changes, false);
             }
+        }
+    }
+
+    /** One room of 600,000 objects and 7.3 million fields and elements holds thousands of houses, full or not. */
+    private static void room() throws IllegalAccessException {
+        long[] empty = objectsAndElements(new BillHouse());
+        long[] full = objectsAndElements(Houses.full());
+        Due.is("objects of " + empty[0], empty[0] <= 60, true);
+        Due.is("fields and elements of " + empty[1], empty[1] <= 2500, true);
+        Due.is("objects of a full house", full[0], empty[0]);
+        Due.is("fields and elements of a full house", full[1], empty[1]);
+    }
+
+    private static long[] objectsAndElements(Object object) throws IllegalAccessException {
+        long[] sum = {1, 0};
+        if (object.getClass().isArray()) {
+            sum[1] = Array.getLength(object);
+            if (object instanceof Object[] parts) {
+                for (Object part : parts) {
+                    add(sum, part);
+                }
+            }
+            return sum;
+        }
+        for (Field field : object.getClass().getDeclaredFields()) {
+            if (!Modifier.isStatic(field.getModifiers())) {
+                sum[1]++;
+                field.setAccessible(true);
+                add(sum, field.getType().isPrimitive() ? null : field.get(object));
+            }
+        }
+        return sum;
+    }
+
+    private static void add(long[] sum, Object part) throws IllegalAccessException {
+        if (part != null) {
+            long[] more = objectsAndElements(part);
+            sum[0] += more[0];
+            sum[1] += more[1];
         }
     }
 

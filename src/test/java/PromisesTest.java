@@ -41,46 +41,6 @@ public final class PromisesTest {
         Due.end();
     }
 
-    private static BillHouse house(int works, int users) {
-        BillHouse house = new BillHouse();
-        for (int work = 0; work < works; work++) {
-            house.work(0, 0);
-        }
-        for (int user = 0; user < users; user++) {
-            house.user();
-        }
-        return house;
-    }
-
-    /** One work of a fixed cost, which each user uses by as many units as told. */
-    private static BillHouse oneWork(int fixed, int step, int... units) {
-        BillHouse house = house(0, units.length);
-        house.work(fixed, step);
-        for (int user = 0; user < units.length; user++) {
-            house.use(0, user, units[user]);
-        }
-        return house;
-    }
-
-    private static void fraction(String what, long top, long bottom, long wantTop, long wantBottom) {
-        Due.is(what + " numerator", top, wantTop);
-        Due.is(what + " denominator", bottom, wantBottom);
-    }
-
-    private static void price(BillHouse h, int work, long top, long bottom) {
-        fraction("price " + work, h.price(work, 0), h.price(work, 1), top, bottom);
-    }
-
-    private static void bill(BillHouse h, int rule, int user, long top, long bottom) {
-        fraction("bill " + rule + " of " + user, h.bill(rule, user, 0), h.bill(rule, user, 1), top, bottom);
-    }
-
-    private static void coinsOf(BillHouse h, int rule, int... want) {
-        for (int user = 0; user < want.length; user++) {
-            Due.is("coins " + rule + " of " + user, h.coins(rule, user), want[user]);
-        }
-    }
-
     private static void newObject() {
         BillHouse h = new BillHouse();
         for (int what = 0; what < 7; what++) {
@@ -140,7 +100,7 @@ public final class PromisesTest {
     }
 
     private static void change() {
-        BillHouse h = oneWork(10, 1, 5);
+        BillHouse h = Houses.oneWork(10, 1, 5);
         Due.is("cost before", h.cost(1), 11);
         Due.is("change", h.change(0, 20, 3), true);
         Due.is("cost after", h.cost(1), 23);
@@ -161,7 +121,7 @@ public final class PromisesTest {
     }
 
     private static void use() {
-        BillHouse h = house(2, 2);
+        BillHouse h = Houses.plain(2, 2);
         Due.is("use", h.use(1, 0, 9), true);
         Due.is("use units -1", h.use(1, 0, -1), false);
         Due.is("use units 10", h.use(1, 0, 10), false);
@@ -184,7 +144,7 @@ public final class PromisesTest {
     }
 
     private static void feed() {
-        BillHouse h = house(3, 1);
+        BillHouse h = Houses.plain(3, 1);
         h.use(0, 0, 1);
         Due.is("feed", h.feed(1, 0, 9), true);
         Due.is("feed total", h.total(1), 9);
@@ -205,7 +165,7 @@ public final class PromisesTest {
     }
 
     private static void set() {
-        BillHouse h = house(0, 3);
+        BillHouse h = Houses.plain(0, 3);
         Due.is("set as it is", h.set(1, true), false);
         Due.is("set away", h.set(1, false), true);
         Due.is("two there", h.count(2), 2);
@@ -223,7 +183,7 @@ public final class PromisesTest {
     }
 
     private static void mark() {
-        BillHouse h = house(0, 2);
+        BillHouse h = Houses.plain(0, 2);
         Due.is("mark", h.mark(0, 7), 7);
         Due.is("mark more", h.mark(0, -8), -1);
         Due.is("mark 0", h.mark(0, 0), -1);
@@ -247,7 +207,7 @@ public final class PromisesTest {
     }
 
     private static void needed() {
-        BillHouse h = house(6, 2);
+        BillHouse h = Houses.plain(6, 2);
         // 5 uses 4 uses 3 .. uses 0: the way from user to work 0 has all works on it.
         for (int work = 0; work < 5; work++) {
             h.feed(work, work + 1, 1);
@@ -264,7 +224,7 @@ public final class PromisesTest {
         h.feed(3, 4, 0);
         Due.is("chain cut", h.needed(), 32 + 16 + 7);
 
-        BillHouse up = house(6, 1);
+        BillHouse up = Houses.plain(6, 1);
         for (int work = 0; work < 5; work++) {
             up.feed(work + 1, work, 1);
         }
@@ -273,7 +233,7 @@ public final class PromisesTest {
     }
 
     private static void idle() {
-        BillHouse h = house(6, 1);
+        BillHouse h = Houses.plain(6, 1);
         h.feed(0, 1, 1);
         Due.is("one way is no ring", h.idle(), 0);
         h.feed(1, 0, 1);
@@ -294,7 +254,7 @@ public final class PromisesTest {
         h.feed(0, 1, 0);
         Due.is("rings are cut", h.idle(), 0);
 
-        BillHouse six = house(6, 1);
+        BillHouse six = Houses.plain(6, 1);
         for (int work = 0; work < 6; work++) {
             six.feed((work + 1) % 6, work, 9);
         }
@@ -304,7 +264,7 @@ public final class PromisesTest {
         six.use(5, 0, 0);
         Due.is("ring of six idle again", six.idle(), 63);
 
-        BillHouse two = house(4, 1);
+        BillHouse two = Houses.plain(4, 1);
         two.feed(0, 1, 1);
         two.feed(1, 0, 1);
         two.feed(2, 3, 1);
@@ -318,7 +278,7 @@ public final class PromisesTest {
     }
 
     private static void total() {
-        BillHouse h = house(3, 3);
+        BillHouse h = Houses.plain(3, 3);
         h.use(0, 0, 4);
         h.use(0, 1, 5);
         h.feed(0, 1, 7);
@@ -339,7 +299,7 @@ public final class PromisesTest {
     }
 
     private static void cost() {
-        BillHouse h = house(0, 3);
+        BillHouse h = Houses.plain(0, 3);
         h.work(100, 0);
         h.work(20, 0);
         h.work(3, 0);
@@ -369,7 +329,7 @@ public final class PromisesTest {
     }
 
     private static void costByTens() {
-        BillHouse h = oneWork(5, 7, 1, 9, 1, 9, 0);
+        BillHouse h = Houses.oneWork(5, 7, 1, 9, 1, 9, 0);
         Due.is("1 unit", h.cost(1), 12);
         Due.is("9 units", h.cost(2), 12);
         Due.is("10 units", h.cost(3), 12);
@@ -384,8 +344,8 @@ public final class PromisesTest {
     }
 
     private static void price() {
-        BillHouse h = oneWork(10, 0, 4, 2);
-        price(h, 0, 5, 3);
+        BillHouse h = Houses.oneWork(10, 0, 4, 2);
+        Due.price(h, 0, 5, 3);
         Due.is("price what 2", h.price(0, 2), UNTOLD);
         Due.is("price what -1", h.price(0, -1), UNTOLD);
         Due.is("price of no work", h.price(1, 0), UNTOLD);
@@ -394,84 +354,84 @@ public final class PromisesTest {
             Due.is("price what", h.price(0, far), UNTOLD);
         }
         h.change(0, 0, 0);
-        price(h, 0, 0, 1);
+        Due.price(h, 0, 0, 1);
         h.change(0, 12, 0);
-        price(h, 0, 2, 1);
+        Due.price(h, 0, 2, 1);
         h.set(1, false);
-        price(h, 0, 3, 1);
+        Due.price(h, 0, 3, 1);
         h.set(0, false);
         Due.is("price of one not needed", h.price(0, 0), UNTOLD);
         Due.is("price of one not needed", h.price(0, 1), UNTOLD);
 
         // A ring: 10 p0 = 100 + 5 p1 and 6 p1 = 20 + 2 p0, as 0 uses five of 1 and 1 two of 0.
-        BillHouse ring = house(0, 2);
+        BillHouse ring = Houses.plain(0, 2);
         ring.work(100, 0);
         ring.work(20, 0);
         ring.use(0, 0, 8);
         ring.use(1, 1, 1);
         ring.feed(1, 0, 5);
         ring.feed(0, 1, 2);
-        price(ring, 0, 14, 1);
-        price(ring, 1, 8, 1);
+        Due.price(ring, 0, 14, 1);
+        Due.price(ring, 1, 8, 1);
         // A third that uses both but is not needed leaves the prices.
         ring.work(1000, 0);
         ring.feed(0, 2, 9);
         ring.feed(1, 2, 9);
-        price(ring, 0, 14, 1);
-        price(ring, 1, 8, 1);
+        Due.price(ring, 0, 14, 1);
+        Due.price(ring, 1, 8, 1);
         Due.is("third is not needed", ring.price(2, 0), UNTOLD);
     }
 
     private static void billByUse() {
-        BillHouse h = house(0, 3);
+        BillHouse h = Houses.plain(0, 3);
         h.work(10, 0);
         h.work(7, 0);
         h.use(0, 0, 1);
         h.use(0, 1, 2);
         h.use(1, 1, 2);
         h.use(1, 2, 1);
-        bill(h, 0, 0, 10, 3);
-        bill(h, 0, 1, 34, 3);
-        bill(h, 0, 2, 7, 3);
+        Due.bill(h, 0, 0, 10, 3);
+        Due.bill(h, 0, 1, 34, 3);
+        Due.bill(h, 0, 2, 7, 3);
         h.mark(0, -3);
-        bill(h, 0, 0, 1, 3);
+        Due.bill(h, 0, 0, 1, 3);
         h.mark(0, -1);
-        bill(h, 0, 0, -2, 3);
+        Due.bill(h, 0, 0, -2, 3);
         h.mark(2, 1);
-        bill(h, 0, 2, 10, 3);
+        Due.bill(h, 0, 2, 10, 3);
         h.set(1, false);
-        bill(h, 0, 0, 6, 1);
-        bill(h, 0, 2, 8, 1);
+        Due.bill(h, 0, 0, 6, 1);
+        Due.bill(h, 0, 2, 8, 1);
         h.mark(0, -6);
-        bill(h, 0, 0, 0, 1);
+        Due.bill(h, 0, 0, 0, 1);
         h.use(0, 0, 0);
-        bill(h, 0, 0, -10, 1);
+        Due.bill(h, 0, 0, -10, 1);
     }
 
     private static void billAlone() {
-        BillHouse h = house(0, 3);
+        BillHouse h = Houses.plain(0, 3);
         h.work(10, 0);
         h.work(20, 0);
         h.use(0, 0, 1);
         h.use(0, 1, 9);
         h.use(1, 1, 1);
         // Alone 10, 30 and 0; together 30.
-        bill(h, 1, 0, 15, 2);
-        bill(h, 1, 1, 45, 2);
-        bill(h, 1, 2, 0, 1);
+        Due.bill(h, 1, 0, 15, 2);
+        Due.bill(h, 1, 1, 45, 2);
+        Due.bill(h, 1, 2, 0, 1);
         h.mark(2, 4);
         h.mark(0, -8);
-        bill(h, 1, 2, 4, 1);
-        bill(h, 1, 0, -1, 2);
+        Due.bill(h, 1, 2, 4, 1);
+        Due.bill(h, 1, 0, -1, 2);
         h.set(1, false);
-        bill(h, 1, 0, 2, 1);
+        Due.bill(h, 1, 0, 2, 1);
         h.change(0, 0, 0);
-        bill(h, 1, 0, -8, 1);
-        bill(h, 1, 2, 4, 1);
+        Due.bill(h, 1, 0, -8, 1);
+        Due.bill(h, 1, 2, 4, 1);
     }
 
     private static void billByOrders() {
-        BillHouse h = house(0, 3);
+        BillHouse h = Houses.plain(0, 3);
         h.work(6, 0);
         h.work(12, 0);
         h.work(5, 0);
@@ -481,36 +441,36 @@ public final class PromisesTest {
         h.use(2, 2, 1);
         h.feed(1, 2, 1);
         // Work 0 for three, work 1 for two, work 2 for one.
-        bill(h, 2, 0, 2, 1);
-        bill(h, 2, 1, 8, 1);
-        bill(h, 2, 2, 13, 1);
+        Due.bill(h, 2, 0, 2, 1);
+        Due.bill(h, 2, 1, 8, 1);
+        Due.bill(h, 2, 2, 13, 1);
         h.set(0, false);
-        bill(h, 2, 1, 9, 1);
-        bill(h, 2, 2, 14, 1);
+        Due.bill(h, 2, 1, 9, 1);
+        Due.bill(h, 2, 2, 14, 1);
         h.mark(1, -10);
-        bill(h, 2, 1, -1, 1);
+        Due.bill(h, 2, 1, -1, 1);
         h.set(1, false);
-        bill(h, 2, 2, 23, 1);
+        Due.bill(h, 2, 2, 23, 1);
 
         // Units 9, 1 and 1 by tens: the last one of three pays the second ten unless it comes second.
-        BillHouse tens = oneWork(0, 6, 9, 1, 1);
+        BillHouse tens = Houses.oneWork(0, 6, 9, 1, 1);
         // Orders with user 0 first: 6; second: 0 of 6 (10 units); last: 6 (2 units, then 11).
-        bill(tens, 2, 0, 4, 1);
-        bill(tens, 2, 1, 4, 1);
-        bill(tens, 2, 2, 4, 1);
-        BillHouse uneven = oneWork(0, 6, 9, 2, 1);
+        Due.bill(tens, 2, 0, 4, 1);
+        Due.bill(tens, 2, 1, 4, 1);
+        Due.bill(tens, 2, 2, 4, 1);
+        BillHouse uneven = Houses.oneWork(0, 6, 9, 2, 1);
         // 0+1: 12, 0+2: 6, 1+2: 6, all: 12. User 2: first 6, after 0: 0, after 1: 0, last: 0.
-        bill(uneven, 2, 0, 5, 1);
-        bill(uneven, 2, 1, 5, 1);
-        bill(uneven, 2, 2, 2, 1);
+        Due.bill(uneven, 2, 0, 5, 1);
+        Due.bill(uneven, 2, 1, 5, 1);
+        Due.bill(uneven, 2, 2, 2, 1);
         uneven.change(0, 1, 0);
-        bill(uneven, 2, 1, 1, 3);
+        Due.bill(uneven, 2, 1, 1, 3);
     }
 
     private static void billRefused() {
-        BillHouse h = oneWork(10, 0, 1, 1);
+        BillHouse h = Houses.oneWork(10, 0, 1, 1);
         for (int rule = 0; rule < 3; rule++) {
-            bill(h, rule, 0, 5, 1);
+            Due.bill(h, rule, 0, 5, 1);
             Due.is("bill what 2", h.bill(rule, 0, 2), UNTOLD);
             Due.is("bill of none", h.bill(rule, 2, 0), UNTOLD);
             for (int far : FAR) {
@@ -524,12 +484,12 @@ public final class PromisesTest {
         for (int rule = 0; rule < 3; rule++) {
             Due.is("bill of one away", h.bill(rule, 0, 0), UNTOLD);
             Due.is("bill of one away", h.bill(rule, 0, 1), UNTOLD);
-            bill(h, rule, 1, 10, 1);
+            Due.bill(h, rule, 1, 10, 1);
         }
     }
 
     private static void greatestHouse() {
-        BillHouse h = house(0, 8);
+        BillHouse h = Houses.plain(0, 8);
         for (int work = 0; work < 6; work++) {
             h.work(10000, 100);
         }
@@ -543,26 +503,26 @@ public final class PromisesTest {
         }
         Due.is("greatest total", h.total(5), 117);
         Due.is("greatest cost", h.cost(255), 67200);
-        price(h, 3, 1400, 9);
+        Due.price(h, 3, 1400, 9);
         for (int rule = 0; rule < 3; rule++) {
-            bill(h, rule, 7, 8400, 1);
+            Due.bill(h, rule, 7, 8400, 1);
             Due.is("greatest coins", h.coins(rule, 7), 8400);
             Due.is("nobody leaves", h.leaving(rule), 0);
         }
         h.mark(7, 10000);
-        bill(h, 0, 7, 18400, 1);
+        Due.bill(h, 0, 7, 18400, 1);
         h.mark(7, -20000);
-        bill(h, 0, 7, -1600, 1);
+        Due.bill(h, 0, 7, -1600, 1);
         Due.is("coins below 0", h.coins(2, 7), -1600);
     }
 
     private static void coins() {
-        BillHouse h = oneWork(10, 0, 1, 2);
-        coinsOf(h, 0, 3, 7);
-        coinsOf(h, 1, 5, 5);
-        coinsOf(h, 2, 5, 5);
+        BillHouse h = Houses.oneWork(10, 0, 1, 2);
+        Due.coins(h, 0, 3, 7);
+        Due.coins(h, 1, 5, 5);
+        Due.coins(h, 2, 5, 5);
         h.mark(0, -4);
-        coinsOf(h, 0, -1, 7);
+        Due.coins(h, 0, -1, 7);
         for (int rule = 0; rule < 3; rule++) {
             Due.is("coins of none", h.coins(rule, 2), NO_COINS);
             for (int far : FAR) {
@@ -573,52 +533,52 @@ public final class PromisesTest {
         Due.is("coins rule 3", h.coins(3, 0), NO_COINS);
         h.set(0, false);
         for (int rule = 0; rule < 3; rule++) {
-            coinsOf(h, rule, NO_COINS, 10);
+            Due.coins(h, rule, NO_COINS, 10);
         }
         h.change(0, 0, 0);
         h.mark(1, 6);
         for (int rule = 0; rule < 3; rule++) {
-            coinsOf(h, rule, NO_COINS, 6);
+            Due.coins(h, rule, NO_COINS, 6);
         }
     }
 
     private static void coinsRests() {
-        BillHouse h = oneWork(10, 0, 1, 1, 1);
+        BillHouse h = Houses.oneWork(10, 0, 1, 1, 1);
         for (int rule = 0; rule < 3; rule++) {
-            coinsOf(h, rule, 4, 3, 3);
+            Due.coins(h, rule, 4, 3, 3);
         }
         h.change(0, 11, 0);
         for (int rule = 0; rule < 3; rule++) {
-            coinsOf(h, rule, 4, 4, 3);
+            Due.coins(h, rule, 4, 4, 3);
         }
         h.change(0, 2, 0);
         for (int rule = 0; rule < 3; rule++) {
-            coinsOf(h, rule, 1, 1, 0);
+            Due.coins(h, rule, 1, 1, 0);
         }
         h.set(0, false);
         h.change(0, 3, 0);
         for (int rule = 0; rule < 3; rule++) {
-            coinsOf(h, rule, NO_COINS, 2, 1);
+            Due.coins(h, rule, NO_COINS, 2, 1);
         }
         // By use 1/7, 2/7, 4/7 of 10: 1 3/7, 2 6/7, 5 5/7: two are left.
-        BillHouse rests = oneWork(10, 0, 1, 2, 4);
-        coinsOf(rests, 0, 1, 3, 6);
+        BillHouse rests = Houses.oneWork(10, 0, 1, 2, 4);
+        Due.coins(rests, 0, 1, 3, 6);
         // What is marked has no part in the rests, whatever its sign.
         rests.mark(1, -9);
         rests.mark(2, 1);
-        coinsOf(rests, 0, 1, -6, 7);
+        Due.coins(rests, 0, 1, -6, 7);
         // One who uses nothing has no rest and gets none.
-        BillHouse nothing = oneWork(1, 0, 0, 1, 1);
+        BillHouse nothing = Houses.oneWork(1, 0, 0, 1, 1);
         for (int rule = 0; rule < 3; rule++) {
-            coinsOf(nothing, rule, 0, 1, 0);
+            Due.coins(nothing, rule, 0, 1, 0);
         }
     }
 
     private static void leaving() {
-        BillHouse h = oneWork(0, 10, 1, 9, 1);
+        BillHouse h = Houses.oneWork(0, 10, 1, 9, 1);
         // 20 for 11 units: user 1 pays 180/11, alone 10.
         Due.is("leaving by use", h.leaving(0), 2);
-        BillHouse pair = oneWork(0, 10, 5, 5, 1);
+        BillHouse pair = Houses.oneWork(0, 10, 5, 5, 1);
         Due.is("two would leave", pair.leaving(0), 3);
         Due.is("two would leave by alone", pair.leaving(1), 3);
         pair.mark(0, 10000);
@@ -628,7 +588,7 @@ public final class PromisesTest {
         for (int rule = 0; rule < 3; rule++) {
             Due.is("nobody leaves", pair.leaving(rule), 0);
         }
-        BillHouse highest = house(0, 3);
+        BillHouse highest = Houses.plain(0, 3);
         highest.work(0, 10);
         highest.use(0, 1, 5);
         highest.use(0, 2, 5);
@@ -637,10 +597,10 @@ public final class PromisesTest {
         highest.set(0, false);
         Due.is("the set is by users", highest.leaving(0), 6);
         // By orders: 9 and 1 and 1 units cost 12 in all, 4 each; 0 and 1 together cost 6.
-        BillHouse orders = oneWork(0, 6, 9, 1, 1);
+        BillHouse orders = Houses.oneWork(0, 6, 9, 1, 1);
         Due.is("leaving by orders", orders.leaving(2), 3);
         // As much as its cost is not more.
-        BillHouse even = oneWork(0, 10, 9, 9);
+        BillHouse even = Houses.oneWork(0, 10, 9, 9);
         for (int rule = 0; rule < 3; rule++) {
             Due.is("as much is not more", even.leaving(rule), 0);
         }
@@ -651,7 +611,7 @@ public final class PromisesTest {
     }
 
     private static void saved() {
-        BillHouse h = house(0, 3);
+        BillHouse h = Houses.plain(0, 3);
         h.work(10, 0);
         h.work(7, 0);
         h.use(0, 0, 1);
@@ -670,7 +630,7 @@ public final class PromisesTest {
     }
 
     private static void differ() {
-        BillHouse h = oneWork(10, 0, 1, 2, 2);
+        BillHouse h = Houses.oneWork(10, 0, 1, 2, 2);
         // By use 2, 4, 4; alone and by orders 4, 3, 3.
         Due.is("differ 0 1", h.differ(0, 1), 4);
         Due.is("differ 1 0", h.differ(1, 0), 4);
@@ -691,7 +651,7 @@ public final class PromisesTest {
     }
 
     private static void book() {
-        BillHouse h = oneWork(10, 0, 1, 0, 4);
+        BillHouse h = Houses.oneWork(10, 0, 1, 0, 4);
         Due.is("book rule 3", h.book(3), NONE);
         for (int far : FAR) {
             Due.is("book rule", h.book(far), NONE);
@@ -716,7 +676,7 @@ public final class PromisesTest {
     }
 
     private static void bookFull() {
-        BillHouse h = oneWork(80, 0, 1, 1, 1, 1, 1, 1, 1, 1);
+        BillHouse h = Houses.oneWork(80, 0, 1, 1, 1, 1, 1, 1, 1, 1);
         for (int round = 0; round < 49; round++) {
             h.change(0, round % 2 == 0 ? 80 : 0, 0);
             Due.is("book eight", h.book(0), 8);
@@ -751,7 +711,7 @@ public final class PromisesTest {
     }
 
     private static void booked() {
-        BillHouse h = oneWork(10, 0, 1, 1);
+        BillHouse h = Houses.oneWork(10, 0, 1, 1);
         Due.is("booked at first", h.booked(0), 0);
         h.book(2);
         Due.is("booked", h.booked(0), 5);
@@ -766,7 +726,7 @@ public final class PromisesTest {
     }
 
     private static void line() {
-        BillHouse h = oneWork(10, 0, 1, 0, 1);
+        BillHouse h = Houses.oneWork(10, 0, 1, 0, 1);
         h.book(0);
         h.book(1);
         h.set(0, false);
@@ -786,7 +746,7 @@ public final class PromisesTest {
     }
 
     private static void count() {
-        BillHouse h = oneWork(10, 0, 1, 1, 1, 0);
+        BillHouse h = Houses.oneWork(10, 0, 1, 1, 1, 0);
         h.work(0, 0);
         h.mark(0, 7);
         h.mark(1, -3);
