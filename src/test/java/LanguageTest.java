@@ -6,7 +6,9 @@ import java.lang.reflect.Modifier;
 import java.nio.file.Files;
 import java.nio.file.Path;
 import java.util.List;
+import java.util.Map;
 import java.util.Set;
+import java.util.TreeMap;
 import java.util.TreeSet;
 import java.util.regex.Matcher;
 import java.util.regex.Pattern;
@@ -24,7 +26,13 @@ public final class LanguageTest {
             "\\b(throw|throws|try|catch|synchronized|assert|\\w+Exact|System\\.(?!arraycopy)\\w+"
             + "|Random|Thread|float|double)\\b|static\\s*\\{|->|::|\"");
     private static final List<String> IMPORTS = List.of("import java.util.Arrays;");
-    private static final Pattern METHOD = Pattern.compile("^ +(public|private)( static)? [\\w\\[\\]]+ \\w+\\((.*)\\) \\{$");
+    private static final Set<String> LIBRARY = Set.of(
+            "Arrays.copyOf", "Arrays.copyOfRange", "Arrays.fill", "System.arraycopy", "Integer.bitCount",
+            "Integer.compare", "Long.compare", "Math.abs", "Math.max", "Math.min", "Math.floorDiv", "Math.floorMod");
+    private static final Pattern METHOD = Pattern.compile("^ +(?:public|private)(?: static)? [\\w\\[\\]]+ (\\w+)\\((.*)\\) \\{$");
+    private static final Pattern CALL = Pattern.compile("(?<!\\bnew )\\b(\\w+)\\(");
+    private static final Pattern LIBRARY_CALL = Pattern.compile("\\b([A-Z]\\w*\\.\\w+)\\(");
+    private static final int MOST_DEEP = 8;
 
     private LanguageTest() {
     }
@@ -37,7 +45,9 @@ public final class LanguageTest {
         List<String> code = Files.readAllLines(SOURCE).stream().map(LanguageTest::withoutComment).toList();
         forbiddenWords(code);
         objectsInConstructorsAlone(code);
+        libraryCalls(code);
         shortMethods(code);
+        callsNotTooDeep(code);
         Due.end();
     }
 
@@ -74,6 +84,7 @@ public final class LanguageTest {
             boolean isOfFace = field.getName().equals("NONE") || field.getName().equals("UNTOLD");
             Due.is(field + " is private", Modifier.isPrivate(modifiers), !isOfFace);
             Due.is(field + " is final", Modifier.isFinal(modifiers), true);
+            Due.is(field + " is of an allowed type", isAllowed(field.getType()), true);
         }
     }
 
@@ -86,10 +97,22 @@ public final class LanguageTest {
             Due.is(one + " is public or protected", Modifier.isPublic(modifiers) || Modifier.isProtected(modifiers), false);
             Due.is(one + " has few fields", one.getDeclaredFields().length <= 20, true);
             for (Field field : one.getDeclaredFields()) {
+                Due.is(field + " is of an allowed type", isAllowed(field.getType()), true);
                 boolean changes = Modifier.isStatic(field.getModifiers()) && !Modifier.isFinal(field.getModifiers());
                 Due.is(field + " is static and not final", changes, false);
             }
         }
+    }
+
+    /** Numbers, rows of numbers of one or two dimensions, and classes of one's own: so no call goes to a library's object. */
+    private static boolean isAllowed(Class<?> type) {
+        Class<?> inner = type;
+        int dimensions = 0;
+        while (inner.isArray()) {
+            inner = inner.getComponentType();
+            dimensions++;
+        }
+        return inner.isPrimitive() ? dimensions <= 2 : inner.getNestHost() == BillHouse.class && dimensions <= 1;
     }
 
     /** One room of 600,000 objects and 7.3 million fields and elements holds thousands of houses, full or not. */
@@ -167,7 +190,7 @@ public final class LanguageTest {
             Matcher matcher = METHOD.matcher(code.get(i));
             if (matcher.matches()) {
                 start = i;
-                Due.is("parameters of " + code.get(i), matcher.group(3).split(",").length <= 7, true);
+                Due.is("parameters of " + code.get(i), matcher.group(2).split(",").length <= 7, true);
             }
             if (start >= 0 && code.get(i).matches(" +\\}")) {
                 Due.is("length of " + code.get(start), i - start <= 60, true);
@@ -176,5 +199,54 @@ public final class LanguageTest {
                 start = -1;
             }
         }
+    }
+
+    private static void libraryCalls(List<String> code) {
+        for (String line : code) {
+            Matcher matcher = LIBRARY_CALL.matcher(line);
+            while (matcher.find()) {
+                Due.is("allowed " + matcher.group(1), LIBRARY.contains(matcher.group(1)), true);
+            }
+        }
+    }
+
+    private static void callsNotTooDeep(List<String> code) {
+        Map<String, Set<String>> calls = callsByMethod(code);
+        for (String method : FACE) {
+            String name = method.substring(method.indexOf(' ') + 1, method.indexOf('('));
+            Due.is("calls of " + name + " were found", calls.containsKey(name), true);
+            Due.is("calls from " + name + " go too deep", depth(name, calls, 0) > MOST_DEEP, false);
+        }
+    }
+
+    /** Methods of one name in several classes are taken as one, which can only make the depth greater. */
+    private static Map<String, Set<String>> callsByMethod(List<String> code) {
+        Map<String, Set<String>> calls = new TreeMap<>();
+        String current = "";
+        for (String line : code) {
+            Matcher header = METHOD.matcher(line);
+            if (header.matches()) {
+                current = header.group(1);
+                calls.computeIfAbsent(current, name -> new TreeSet<>());
+                continue;
+            }
+            Matcher call = CALL.matcher(line);
+            while (call.find() && calls.containsKey(current)) {
+                calls.get(current).add(call.group(1));
+            }
+        }
+        return calls;
+    }
+
+    /** How many methods stand open at once at most; one that calls itself counts as too many. */
+    private static int depth(String name, Map<String, Set<String>> calls, int above) {
+        if (!calls.containsKey(name) || above > MOST_DEEP) {
+            return 0;
+        }
+        int below = 0;
+        for (String called : calls.get(name)) {
+            below = Math.max(below, depth(called, calls, above + 1));
+        }
+        return 1 + below;
     }
 }

@@ -27,6 +27,7 @@ public final class PromisesTest {
         billAlone();
         billByOrders();
         billRefused();
+        threeRules();
         greatestHouse();
         coins();
         coinsRests();
@@ -485,6 +486,45 @@ public final class PromisesTest {
             Due.is("bill of one away", h.bill(rule, 0, 0), UNTOLD);
             Due.is("bill of one away", h.bill(rule, 0, 1), UNTOLD);
             Due.bill(h, rule, 1, 10, 1);
+        }
+    }
+
+    /** One house in which no two rules part alike, and each leaves rests. */
+    private static void threeRules() {
+        BillHouse h = Houses.plain(0, 3);
+        h.work(31, 10);
+        h.work(12, 0);
+        h.use(0, 0, 8);
+        h.use(1, 1, 3);
+        h.use(1, 2, 1);
+        h.feed(0, 1, 4);
+        int[] costs = {0, 41, 53, 63, 53, 63, 53, 63};
+        for (int set = 0; set < 8; set++) {
+            Due.is("cost " + set, h.cost(set), costs[set]);
+        }
+        // 12 p0 = 51 and 4 p1 = 12 + 4 p0.
+        Due.price(h, 0, 17, 4);
+        Due.price(h, 1, 29, 4);
+        long[][] tops = {{34, 87, 29}, {123, 159, 159}, {61, 64, 64}};
+        long[][] bottoms = {{1, 4, 4}, {7, 7, 7}, {3, 3, 3}};
+        int[][] coins = {{34, 22, 7}, {17, 23, 23}, {21, 21, 21}};
+        for (int rule = 0; rule < 3; rule++) {
+            for (int user = 0; user < 3; user++) {
+                Due.bill(h, rule, user, tops[rule][user], bottoms[rule][user]);
+            }
+            Due.coins(h, rule, coins[rule]);
+            Due.is("leaving " + rule, h.leaving(rule), 0);
+        }
+        Due.is("differ 0 1", h.differ(0, 1), 34);
+        Due.is("differ 0 2", h.differ(0, 2), 28);
+        Due.is("differ 1 2", h.differ(1, 2), 8);
+        for (int rule = 0; rule < 3; rule++) {
+            Due.is("book " + rule, h.book(rule), 3);
+            for (int user = 0; user < 3; user++) {
+                int before = rule == 0 ? 0 : coins[rule - 1][user];
+                Due.line(h, 3 * rule + user, rule, user, coins[rule][user] - before);
+                Due.is("booked", h.booked(user), coins[rule][user]);
+            }
         }
     }
 

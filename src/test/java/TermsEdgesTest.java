@@ -23,6 +23,7 @@ public final class TermsEdgesTest {
         ringsWithOneUnit();
         ringsOfSix();
         ringsWhoseUserLeft();
+        pricesBesideARingThatWasNeeded();
         fractionsOfGreatestDenominators();
         billsByUseOfNothing();
         billsAloneOfNothing();
@@ -255,6 +256,30 @@ public final class TermsEdgesTest {
             Due.is("coins", h.coins(rule, 1), 0);
             Due.is("leaving", h.leaving(rule), 0);
         }
+    }
+
+    private static void pricesBesideARingThatWasNeeded() {
+        Due.about("PRICE of each NEEDED WORK: nothing is left of a ring that was NEEDED before");
+        // 2 p0 = 3 + p1 and p1 = 4 + p0; work 2 has 5 units for 10.
+        BillHouse h = Houses.oneWork(3, 0, 1, 0);
+        h.work(4, 0);
+        h.work(10, 0);
+        h.feed(1, 0, 1);
+        h.feed(0, 1, 1);
+        h.use(2, 1, 5);
+        Due.price(h, 0, 7, 1);
+        Due.price(h, 1, 11, 1);
+        Due.price(h, 2, 2, 1);
+        h.set(0, false);
+        Due.price(h, 2, 2, 1);
+        Due.bill(h, 0, 1, 10, 1);
+        Due.coins(h, 0, NO_COINS, 10);
+        Due.is("nobody leaves", h.leaving(0), 0);
+        h.set(0, true);
+        Due.price(h, 0, 7, 1);
+        h.use(0, 0, 0);
+        Due.price(h, 2, 2, 1);
+        Due.bill(h, 0, 0, 0, 1);
     }
 
     /** Works that each use all later ones, with primes as totals, so nothing of the denominators goes away. */
